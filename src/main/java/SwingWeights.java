@@ -663,7 +663,7 @@ public final class SwingWeights {
         }
     }
 
-    /** The text that is typed. */
+    /** Apart from State, as undo and the snapshot leave the text alone. */
     private static final class Text {
         private final char[] characters = new char[MOST_CHARACTERS];
         private int length;

@@ -149,7 +149,14 @@ public final class PromiseTests {
         SwingWeights y = council(4, 5, 1, 5);
         vote(y, "++-,---");
         dueOfMembers(y, 11, 2, 0, 1);
+        y.join(0, 2);
+        y.removeMember(1);
+        dueOfMembers(y, 2, 0, 0, UNKNOWN);
+        dueOfMembers(y, 3, 10, 10, UNKNOWN);
+        y.undo();
+        y.undo();
         y.removeMember(0);
+        dueOfMembers(y, 3, 1, 5, UNKNOWN);
         dueOfMembers(y, 11, 0, 1, UNKNOWN);
         due("count(9)", y.count(9), 2);
         due("ballot(1, 1)", y.ballot(1, 1), 6);
@@ -391,6 +398,10 @@ public final class PromiseTests {
         due("undo()", x.undo(), 0);
         dueOfMembers(x, 1, 0, 0);
         due("count(4)", x.count(4), 3);
+        due("setWeight(0, 0)", x.setWeight(0, 0), 1);
+        due("count(4) before undo", x.count(4), 2);
+        due("undo()", x.undo(), 0);
+        due("count(4) after undo", x.count(4), 3);
         undoOfBallots();
     }
 
@@ -398,20 +409,31 @@ public final class PromiseTests {
         SwingWeights x = council(3, 3, 1);
         vote(x, "+-,-+");
         dueOfMembers(x, 11, 2, 0);
-        vote(x, "++,--,+-");
-        dueOfMembers(x, 11, 5, 0);
+        due("ballot(0, 0)", x.ballot(0, 0), 0);
+        x.undo();
+        due("addMember(0)", x.addMember(0), 2);
+        x.join(0, 2);
+        vote(x, "+-+,-++");
+        vote(x, "++-,--0,+-+");
+        dueOfMembers(x, 11, 5, 0, 5);
+        due("ballot(0, 0)", x.ballot(0, 0), 1);
+        due("ballot(1, 2)", x.ballot(1, 2), 1);
         due("ballot(0, 1)", x.ballot(0, 1), 3);
         due("ballot(2, 1)", x.ballot(2, 1), 4);
         x.type('?');
         x.keep();
         due("undo()", x.undo(), 3);
-        dueOfMembers(x, 11, 2, 0);
-        due("ballot(0, 1)", x.ballot(0, 1), 1);
-        due("ballot(1, 1)", x.ballot(1, 1), 3);
-        due("ballot(2, 1)", x.ballot(2, 1), NONE);
-        due("count(12)", x.count(12), 9);
-        due("restore(), as the snapshot is no state", x.restore(), 2);
+        dueOfMembers(x, 11, 2, 0, 2);
+        int[][] wants = {{0, 1, 1}, {1, 3, 0}, {NONE, NONE, NONE}};
+        for (int back = 0; back < wants.length; back++) {
+            for (int what = 0; what < 3; what++) {
+                due("ballot(" + back + ", " + what + ")", x.ballot(back, what), wants[back][what]);
+            }
+        }
+        due("count(12)", x.count(12), 12);
+        due("restore(), as the snapshot is no state", x.restore(), 3);
         due("ballot(2, 1)", x.ballot(2, 1), 4);
+        due("ballot(2, 2)", x.ballot(2, 2), 1);
         due("count(11)", x.count(11), 4);
     }
 
@@ -609,6 +631,8 @@ public final class PromiseTests {
         dueOfShares(x, 0, NONE, NONE, NONE, NONE, BAD_VALUE);
         dueOfShares(x, 4, UNKNOWN);
         due("share(0, -1)", x.share(0, -1), BAD_VALUE);
+        dueOfShares(council(5, 1, 1, 1, 1, 1, 1, 1, 1, 1, 1), 9, 1, 10, 1, 10);
+        dueOfShares(council(50, 50, 0, 0, 0, 0, 0, 0, 0, 0, 0), 0, 1, 1, 1, 1);
     }
 
     private static void wins() {
@@ -765,6 +789,9 @@ public final class PromiseTests {
         x.setVeto(0, true);
         due("fairest() with a veto, 8 being as fair", x.fairest(), 7);
         due("count(2), which stays", x.count(2), 6);
+        SwingWeights y = council(1, 0, 1, 1);
+        y.setVeto(0, true);
+        due("fairest() at the sum of all weights", y.fairest(), 2);
     }
 
     private static void ballot() {
