@@ -310,15 +310,19 @@ public final class CouncilEdgeTests extends Twins {
 
     private static void setsQuota() {
         SwingWeights x = three();
+        dueOfCount(x, 5, 3);
         x.setQuota(9);
         dueOfCount(x, 2, 9);
         dueOfCount(x, 4, 1);
+        dueOfLeast(x, 0, 7, 3, 9);
         x.setQuota(500);
         dueOfCount(x, 2, 500);
         dueOfCount(x, 4, 0);
+        dueOfMembers(x, 6, 0, 0, 0);
         x.setQuota(1);
         dueOfCount(x, 2, 1);
         dueOfCount(x, 4, 7);
+        dueOfMembers(x, 6, 2, 2, 2);
     }
 
     private static void previousQuota() {

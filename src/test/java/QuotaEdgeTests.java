@@ -235,6 +235,9 @@ public final class QuotaEdgeTests extends Twins {
         due("fairest() of 7, 2, 1", x.fairest(), 3);
         bloc(x, 0, 2, 3);
         due("fairest() of one bloc", x.fairest(), 1);
+        SwingWeights three = council(1, 2, 2, 1, 1);
+        bloc(three, 0, 3);
+        due("fairest() of 3, 2, 1, with a bloc of two members", three.fairest(), 3);
     }
 
     private static void fairestOfSeveral() {
@@ -344,7 +347,11 @@ public final class QuotaEdgeTests extends Twins {
         due("ballot(0, 0) of none", x.ballot(0, 0), NONE);
         vote(x, "+");
         due("ballot(0, 0) of one", x.ballot(0, 0), 1);
-        due("ballot(1, 0) of one", x.ballot(1, 0), NONE);
+        for (int back = 1; back <= 9; back++) {
+            due("ballot(" + back + ", 0) of one", x.ballot(back, 0), NONE);
+            due("ballot(" + back + ", 1) of one", x.ballot(back, 1), NONE);
+            due("ballot(" + back + ", 2) of one", x.ballot(back, 2), NONE);
+        }
         vote(x, "+,+,+,+,+,+,+,+,+");
         due("ballot(7, 2) of ten", x.ballot(7, 2), 0);
         for (int back : new int[] {8, 9, 10, 256, 65536, 1 << 30, Integer.MAX_VALUE}) {

@@ -216,7 +216,9 @@ public final class TermsTests extends Sentences {
         x.setVeto(2, true);
         due("wins(3) without the veto of 2", x.wins(3), 0);
         due("wins(5) with it", x.wins(5), 1);
+        dueOfCount(x, 4, 6);
         x.setVeto(3, true);
+        dueOfCount(x, 4, 3);
         due("wins(7) with one of two", x.wins(7), 0);
         due("wins(11) with the other one", x.wins(11), 0);
         due("wins(13) with both", x.wins(13), 1);

@@ -51,6 +51,7 @@ abstract class Twins extends Sentences {
         for (int back = 0; back <= 2; back++) {
             due("ballot(" + back + ", 0) " + when, x.ballot(back, 0), twin.ballot(back, 0));
             due("ballot(" + back + ", 1) " + when, x.ballot(back, 1), twin.ballot(back, 1));
+            due("ballot(" + back + ", 2) " + when, x.ballot(back, 2), twin.ballot(back, 2));
         }
     }
 }
